@@ -570,6 +570,7 @@ public final class HeardWords {
     private static final class Words {
         private final int[] kind = new int[MOST_WORDS];
         private final int[] group = new int[MOST_WORDS];
+        private final int[] groupSize = new int[MOST_WORDS];
         private final int[] town = new int[MOST_WORDS];
         private final int[] hour = new int[MOST_WORDS];
         private final int[] about = new int[MOST_WORDS];
@@ -600,6 +601,7 @@ public final class HeardWords {
             int word = size;
             kind[word] = ofKind;
             group[word] = byGroup;
+            groupSize[word] = Integer.bitCount(byGroup);
             town[word] = inTown;
             hour[word] = atHour;
             about[word] = aboutWhat;
@@ -831,7 +833,7 @@ public final class HeardWords {
             if (law.contradiction == 0) {
                 return both;
             }
-            int more = Integer.bitCount(words.group[earlier]) - Integer.bitCount(words.group[later]);
+            int more = words.groupSize[earlier] - words.groupSize[later];
             return more == 0 ? both : more > 0 ? 1 << later : 1 << earlier;
         }
 
@@ -875,7 +877,7 @@ public final class HeardWords {
             Arrays.fill(struck, 0);
             Arrays.fill(strikers, 0);
             for (int w = 0; w < words.size; w++) {
-                if ((set >> w & 1) != 0 && Integer.bitCount(words.group[w]) >= law.enough) {
+                if ((set >> w & 1) != 0 && words.groupSize[w] >= law.enough) {
                     admitted |= 1 << w;
                     meetEarlier(law, w);
                 }
@@ -895,7 +897,7 @@ public final class HeardWords {
         }
 
         private void meetFoe(int contradiction, int later, int lesser) {
-            int more = Integer.bitCount(words.group[later]) - Integer.bitCount(words.group[lesser]);
+            int more = words.groupSize[later] - words.groupSize[lesser];
             if (contradiction == 0 || contradiction == 2 && more >= 0) {
                 strike(later, lesser);
             }
