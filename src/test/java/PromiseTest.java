@@ -107,6 +107,15 @@ public final class PromiseTest {
         due("none again", x.road(0, 1, 0), 0);
         due("one road again", x.count(4), 1);
         due("a shortest one", x.road(2, 3, 1), 0);
+        HeardWords each = new HeardWords();
+        for (int a = 0; a < 6; a++) {
+            for (int b = 0; b < a; b++) {
+                due("road(" + a + ", " + b + ", 1)", each.road(a, b, 1), 0);
+                due("one road, wherever it is", each.count(4), 1);
+                due("road(" + b + ", " + a + ", 0)", each.road(b, a, 0), 1);
+                due("none", each.count(4), 0);
+            }
+        }
         int[][] bad = {{-1, 0, 1}, {0, -1, 1}, {6, 0, 1}, {0, 6, 1}, {3, 3, 1}, {3, 3, 0}, {2, 3, -1}, {2, 3, 100},
             {Integer.MIN_VALUE, 0, 1}, {0, Integer.MAX_VALUE, 1}, {2, 3, Integer.MAX_VALUE}, {2, 3, Integer.MIN_VALUE}};
         for (int[] b : bad) {
@@ -162,6 +171,8 @@ public final class PromiseTest {
         due("elsewhere about an against", x.word(2, 1, 0, 0, 2), 3);
         due("against an elsewhere", x.word(1, 1, 0, 0, 3), 4);
         due("elsewhere about an elsewhere", x.word(2, 1, 0, 0, 3), 5);
+        due("kind -1, about a word", x.word(-1, 1, 0, 0, 0), BAD);
+        due("kind 3, about a word", x.word(3, 1, 0, 0, 0), BAD);
         due("about itself", x.word(2, 1, 0, 0, 6), BAD);
         due("against itself", x.word(1, 1, 0, 0, 6), BAD);
         due("a charge of value above words", x.word(0, 1, 0, 0, 50), 6);
@@ -572,6 +583,7 @@ public final class PromiseTest {
             due(i + " words", x.orders(0, NONE), factorial);
             due("it stands in all, if it is able", x.orders(0, i - 1), i == 7 ? 0 : factorial);
         }
+        due("seven words: the first", x.orders(0, 0), 5040);
         charge(x, 3, 1);
         due("eight: how many", x.orders(0, NONE), FULL);
         due("eight: a word", x.orders(0, 0), FULL);
@@ -756,6 +768,10 @@ public final class PromiseTest {
         due("in none: struck", x.firm(0, 2), 0);
         due("in none: too few", x.firm(0, 3), 0);
         due("in all", x.firm(0, 4), 2);
+        HeardWords y = new HeardWords();
+        charge(y, 3, 1);
+        charge(y, 3, 1);
+        due("in the one full set, which is all", y.firm(0, 1), 2);
         law(x, 1, "c=1;g=1");
         due("the other law", x.firm(1, 0), 2);
         due("the other law", x.firm(1, 1), 0);
@@ -958,6 +974,15 @@ public final class PromiseTest {
         due("two are fewer than three", x.part(), 36);
         law(x, 1, "c=9");
         due("with a fault: as without any part", x.part(), 36);
+        x = new HeardWords();
+        charge(x, 3, 1);
+        elsewhere(x, 12, 0);
+        charge(x, 13, 1);
+        law(x, 0, "e=1;p=1");
+        law(x, 1, "e=1");
+        due("p alone, by all there are", x.part(), 7);
+        law(x, 1, "p=1;e=1");
+        due("the same in another order", x.part(), NONE);
     }
 
     // ---- 27 to 34
@@ -1167,6 +1192,15 @@ public final class PromiseTest {
             -1, 2, 1, 1, 0, 6, 1, 3, 6, 1,
             1, 2, 0, 0, 0, 6, 1, 0, 6, 1,
             0, 1));
+        HeardWords y = new HeardWords();
+        y.word(CHARGE, 3, 0, 0, 1);
+        y.word(AGAINST, 12, 0, 0, 0);
+        due("with a ring", y.digest(), fold(2, 0, 0, 0, 0, 0,
+            0, 3, 0, 0, 1, 0, 0,
+            1, 12, 0, 0, 0, 0, 0,
+            -1, 2, 0, 0, 0, 0, 0, 0, 0, 2,
+            -1, 2, 0, 0, 0, 0, 0, 0, 0, 2,
+            3, 0));
         long before = x.digest();
         x.lose(0);
         x.sheet(0, 0, 3);
