@@ -774,7 +774,7 @@ public final class HeardWords {
         }
 
         /** In how many orders of the set, behind what was heard, the word stands; it never stands again once it is gone. */
-        int ordersWith(Law law, int set, int word, int depth) {
+        private int ordersWith(Law law, int set, int word, int depth) {
             if (set == 0) {
                 return 1;
             }
