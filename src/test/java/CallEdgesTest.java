@@ -315,7 +315,8 @@ public final class CallEdgesTest {
         }
         int[] words = Edges.outside(0, 5);
         for (int word : words) {
-            Edges.refused("item " + word, () -> orderOf(2, 0, word), y -> y.ordered(0, 3, 0), Edges.NOT);
+            Edges.refused("item " + word + " alone", () -> orderOf(2, word), y -> y.ordered(0, 3, 0), Edges.NOT);
+            Edges.refused("item " + word + " last", () -> orderOf(2, 0, word), y -> y.ordered(0, 3, 0), Edges.NOT);
             Edges.refused("item " + word + " first", () -> orderOf(2, word, 0), y -> y.ordered(0, 3, 0), Edges.NOT);
         }
         Edges.refused("a short of 65536 - 1", () -> orderOf(1, 65535), y -> y.ordered(0, 3, 0), Edges.NOT);

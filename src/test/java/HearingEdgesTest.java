@@ -230,6 +230,13 @@ public final class HearingEdgesTest {
         Edges.due("who is undone as it comes is out as well", Edges.inOrder(x, 0, 2, 1, 0), 3);
         x = new HeardWords();
         Edges.charge(x, 3, 1);
+        Edges.charge(x, 6, 1);
+        Edges.elsewhere(x, 48, 0);
+        Edges.elsewhere(x, 48, 1);
+        Edges.law(x, 0, "e=1");
+        Edges.due("who is undone twice is out still", x.heard(0, 2), 7);
+        x = new HeardWords();
+        Edges.charge(x, 3, 1);
         Edges.against(x, 12, 0);
         Edges.law(x, 0, "e=1");
         Edges.due("who falls in a quarrel is not out", x.heard(0, 2), 0);
@@ -334,6 +341,7 @@ public final class HearingEdgesTest {
         Edges.due("ten words, three kept back", x.orders(0, 9), 5040);
         x.keep(1023);
         Edges.due("all kept back: one order", x.orders(0, Edges.NONE), 1);
+        Edges.due("all kept back: a word stands in none", x.orders(0, 0), 0);
         HeardWords foes = new HeardWords();
         Edges.charge(foes, 3, 1);
         Edges.against(foes, 12, 0);
@@ -342,7 +350,17 @@ public final class HearingEdgesTest {
         Edges.law(foes, 1, "c=1");
         Edges.due("c 1: in one half", foes.orders(1, 0), 3);
         Edges.due("c 1: in the other half", foes.orders(1, 1), 3);
+        foes.heard(1, 0);
+        Edges.due("c 1: whatever was asked before", foes.orders(1, 1), 3);
         Edges.due("in all", foes.orders(1, 2), 6);
+        HeardWords out = new HeardWords();
+        Edges.charge(out, 3, 1);
+        Edges.elsewhere(out, 12, 0);
+        Edges.charge(out, 5, 1);
+        Edges.law(out, 0, "e=1");
+        Edges.due("e 1: in each order but those in which its witness is out", out.orders(0, 2), 4);
+        Edges.due("e 1: in no order", out.orders(0, 0), 0);
+        Edges.due("e 1: in all", out.orders(0, 1), 6);
     }
 
     // ---- at once
@@ -683,6 +701,10 @@ public final class HearingEdgesTest {
         Edges.charge(all, 3, 1);
         all.keep(0b1111100000);
         Edges.due("four are wanted, and not the fifth", all.brings(0, 1), 0b0111100000);
+        Edges.law(all, 1, "g=3");
+        Edges.due("by law 0, whatever law 1 says", all.brings(0, 1), 0b0111100000);
+        Edges.law(all, 0, "g=3");
+        Edges.due("by law 0: two are too few to stand", all.brings(0, 1), Edges.NONE);
     }
 
     private static void parting() {
@@ -708,6 +730,28 @@ public final class HearingEdgesTest {
         Edges.due("of two single ones the least bits", x.part(), 8);
         Edges.law(x, 0, "g=1;c=1;e=1;p=1");
         Edges.due("the same law", x.part(), Edges.NONE);
+        HeardWords first = new HeardWords();
+        Edges.charge(first, 1, 1);
+        Edges.law(first, 1, "g=1");
+        Edges.due("the first word alone", first.part(), 1);
+        String[] laws = {"g=4", "c=1", "c=2", "e=1"};
+        int[] parts = {1, 3, 3, 13};
+        for (int i = 0; i < laws.length; i++) {
+            HeardWords one = new HeardWords();
+            Edges.charge(one, 7, 1);
+            Edges.against(one, 24, 0);
+            Edges.elsewhere(one, 48, 0);
+            Edges.charge(one, 13, 1);
+            Edges.law(one, 1, laws[i]);
+            Edges.due("laws that differ by " + laws[i] + " alone", one.part(), parts[i]);
+        }
+        HeardWords rest = new HeardWords();
+        Edges.charge(rest, 3, 1);
+        Edges.elsewhere(rest, 12, 0);
+        Edges.charge(rest, 49, 1);
+        Edges.law(rest, 0, "e=1");
+        Edges.law(rest, 1, "e=1;p=1");
+        Edges.due("laws that differ by p alone", rest.part(), 7);
         HeardWords three = new HeardWords();
         Edges.charge(three, 3, 1);
         Edges.elsewhere(three, 12, 0);

@@ -221,8 +221,14 @@ public final class TermsEdgesTest {
         Edges.due("no way, 999 apart", x.is(1, 6), 1);
         x.road(0, 1, 99);
         Edges.due("99 away, 999 apart", x.is(1, 6), 0);
+        Edges.due("it undoes nothing any more", x.heard(0, 0), 3);
+        Edges.due("nor heard first", Edges.inOrder(x, 0, 0, 1, 0), 3);
+        Edges.due("nor strikes", x.strikes(0, 1, 0), 0);
         x.road(0, 1, 0);
         Edges.due("no way again", x.is(1, 6), 1);
+        Edges.due("it undoes again", x.heard(0, 0), 2);
+        Edges.due("heard first as well", Edges.inOrder(x, 0, 0, 1, 0), 2);
+        Edges.due("and strikes", x.strikes(0, 1, 0), 1);
         x = new HeardWords();
         Edges.charge(x, 3, 1);
         Edges.beside(x, 12, 0);
