@@ -6,6 +6,7 @@ public final class HearingEdgesTest {
     public static void main(String[] args) {
         able();
         notAble();
+        whoQuarrels();
         quarrelsOfTwo();
         allOfItCounted();
         quarrelsInTurn();
@@ -17,6 +18,7 @@ public final class HearingEdgesTest {
         allThatAreHeard();
         ordersAtMost();
         enoughAtOnce();
+        elsewheresStrike();
         whoStrikes();
         soundSets();
         leastSets();
@@ -86,6 +88,27 @@ public final class HearingEdgesTest {
         Edges.due("none is undone", x.heard(0, 1), 0);
         Edges.law(x, 0, "g=3");
         Edges.due("none stands", x.heard(0, 0), 0);
+    }
+
+    private static void whoQuarrels() {
+        Edges.by("first, if it is AGAINST a WORD that stands, or such a one that stands is AGAINST it, they QUARREL");
+        HeardWords x = new HeardWords();
+        Edges.charge(x, 3, 1);
+        Edges.against(x, 12, 0);
+        Edges.against(x, 48, 0);
+        Edges.due("it is against one that stands", Edges.inOrder(x, 0, 0, 0, 1), 0);
+        Edges.due("one that stands is against it", Edges.inOrder(x, 0, 0, 1, 0), 0);
+        Edges.due("two that are against the same one do not quarrel", Edges.inOrder(x, 0, 0, 1, 2), 6);
+        Edges.due("it is against one that fell", Edges.inOrder(x, 0, 0, 0, 1, 2), 4);
+        Edges.due("it is against one that is not heard", Edges.inOrder(x, 0, 0, 2), 4);
+        HeardWords y = new HeardWords();
+        Edges.charge(y, 3, 1);
+        Edges.against(y, 12, 0);
+        Edges.elsewhere(y, 48, 1);
+        Edges.elsewhere(y, 48, 0);
+        Edges.due("first the quarrel: what falls in it undoes nothing, nor is it undone", Edges.inOrder(y, 0, 1, 0, 1, 2, 3), 0);
+        Edges.due("an elsewhere does not quarrel with the one it is about", Edges.inOrder(y, 0, 0, 0, 3), 8);
+        Edges.due("undone ahead of the quarrel", Edges.inOrder(y, 0, 0, 0, 3, 1), 10);
     }
 
     private static void quarrelsOfTwo() {
@@ -394,6 +417,24 @@ public final class HearingEdgesTest {
         Edges.elsewhere(few, 7, 0);
         Edges.law(few, 0, "g=3");
         Edges.due("two are too few to be struck", few.strikes(0, 1, 0), 0);
+    }
+
+    private static void elsewheresStrike() {
+        Edges.by("a WORD STRIKES another one: a POSSIBLE ELSEWHERE the one it is about");
+        HeardWords x = new HeardWords();
+        Edges.charge(x, 3, 1);
+        Edges.elsewhere(x, 12, 0);
+        Edges.elsewhere(x, 48, 1);
+        Edges.beside(x, 48, 0);
+        int[][] want = {{0, 0, 0, 0}, {1, 0, 0, 0}, {0, 1, 0, 0}, {0, 0, 0, 0}};
+        for (int c = 0; c <= 2; c++) {
+            Edges.law(x, 0, "c=" + c);
+            for (int word = 0; word < 4; word++) {
+                for (int other = 0; other < 4; other++) {
+                    Edges.due("c " + c + ": strikes(0, " + word + ", " + other + ")", x.strikes(0, word, other), want[word][other]);
+                }
+            }
+        }
     }
 
     private static void whoStrikes() {

@@ -16,6 +16,7 @@ public final class TermsEdgesTest {
         keptBack();
         possible();
         lawsAtMost();
+        partsOfALaw();
         figures();
         lastPart();
         faults();
@@ -23,6 +24,7 @@ public final class TermsEdgesTest {
         asWithoutAnyPart();
         sheets();
         findings();
+        callsAtMost();
         Edges.end("TermsEdgesTest");
     }
 
@@ -279,6 +281,19 @@ public final class TermsEdgesTest {
         Edges.refusedWith("firm", Edges::court, (y, law) -> y.firm(law, 0), Edges.BAD, none);
     }
 
+    private static void partsOfALaw() {
+        Edges.by("parts with ; between them: a letter, =, a figure");
+        String[] texts = {"g=1", "g=1;c=1", "g=1;c=1;e=1;p=1", "g=1;c=2;e=1;p=1;g=2;c=1;e=0;p=0;g=4;c=0", ";g=1", "g=1;", "g=1;;c=1", "g=1,c=1",
+            "g=1c=1", "g=10", "g:1", "g1", "=1", "1=g", "G=1", "g=1;C=1", "g=\u0001", " g=1", "g=1 "};
+        int none = Edges.NONE;
+        int[] faults = {none, none, none, none, 0, 4, 4, 3, 3, 3, 1, 1, 0, 0, 0, 4, 2, 0, 3};
+        for (int i = 0; i < texts.length; i++) {
+            HeardWords x = new HeardWords();
+            Edges.law(x, 0, texts[i]);
+            Edges.due("fault of " + texts[i], x.fault(0), faults[i]);
+        }
+    }
+
     private static void figures() {
         Edges.by("g how many make a WORD (1 to 4; 2 without any), c (0 to 2; 0), e (0, 1; 0), p (0, 1; 0).");
         String letters = "gcep";
@@ -447,5 +462,17 @@ public final class TermsEdgesTest {
         x.put(0, 0, 0, 1);
         x.sheet(3, 0, 1);
         Edges.due("the latest stays when calls go well", x.count(8), 5);
+    }
+
+    private static void callsAtMost() {
+        Edges.by("An object is used for at most 512 calls after it has been made");
+        HeardWords x = new HeardWords();
+        HeardWords twin = new HeardWords();
+        Edges.charge(x, 3, 9);
+        Edges.charge(twin, 3, 9);
+        for (int call = 2; call <= 511; call++) {
+            x.sheet(call % 4, call % 3, call % 41);
+        }
+        Edges.due("the 512th call", x.digest(), twin.digest());
     }
 }
